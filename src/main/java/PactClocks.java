@@ -215,7 +215,7 @@ public final class PactClocks {
     /** Returns how many characters the text of a duty has. */
     public int textLength(int duty) throws IndexOutOfBoundsException {
         requireDuty(duty);
-        return terms.length[duty];
+        return terms.signs[duty];
     }
 
     /** Returns the seal of a duty. */
@@ -389,7 +389,7 @@ public final class PactClocks {
         final int[] penalty = new int[MOST_DUTIES];
         final int[] after = new int[MOST_DUTIES];
         final int[] depth = new int[MOST_DUTIES];
-        final int[] length = new int[MOST_DUTIES];
+        final int[] signs = new int[MOST_DUTIES];
         final int[] seal = new int[MOST_DUTIES];
         int count;
 
@@ -418,11 +418,11 @@ public final class PactClocks {
                 text.append(" after ").append(after[duty]);
             }
             text.append('.');
-            length[duty] = text.length();
-            seal[duty] = sealed(text);
+            signs[duty] = text.length();
+            seal[duty] = sealFor(text);
         }
 
-        private static int sealed(StringBuilder text) {
+        private static int sealFor(StringBuilder text) {
             int sum = 11;
             for (int i = 0; i < text.length(); i++) {
                 sum = sum * 31 + text.charAt(i);
