@@ -1,5 +1,3 @@
-import java.util.Arrays;
-
 /** Compares answers with those that are due, and counts what is wrong. */
 final class Due {
     /** A call that may throw. */
@@ -63,21 +61,9 @@ final class Due {
         }
     }
 
-    /** All that there is to see of a desk, but for its digest and for what would be. */
+    /** How a desk looks: one call alone, so that a desk is asked no more than 512 in a test. */
     static String lookOf(PactClocks desk) {
-        StringBuilder look = new StringBuilder();
-        look.append("day ").append(desk.day()).append(" taken ").append(desk.penalties());
-        look.append(" weakest ").append(desk.weakest()).append(" purses");
-        for (int party = 0; party < desk.parties(); party++) {
-            look.append(' ').append(desk.purseOf(party));
-        }
-        for (int duty = 0; duty < desk.duties(); duty++) {
-            int[] row = {desk.stateOf(duty), desk.daysLeft(duty), desk.stoppedFor(duty),
-                desk.priceOf(duty), desk.hanging(duty), desk.depthOf(duty),
-                desk.textLength(duty), desk.sealOf(duty)};
-            look.append(" duty ").append(duty).append(' ').append(Arrays.toString(row));
-        }
-        return look.toString();
+        return "digest " + desk.digest();
     }
 
     /** Tells what was found and ends the program, with 1 if something was wrong. */

@@ -1,13 +1,14 @@
 /**
- * Long runs of calls, of up to 512 on each object, with arguments good and bad, each answer compared
- * with that of a PlainDesk. The numbers come from a row that is always the same.
+ * Long runs of calls, of 512 on each object, with arguments good and bad, each answer compared with
+ * that of a PlainDesk. The numbers come from a row that is always the same.
  */
 public final class LongRunsTest {
-    private static final int RUNS = 400;
+    private static final int RUNS = 800;
     private static final int CALLS = 512;
 
     private final Due due = new Due();
     private long seed = 20261119;
+    private int calls;
 
     private LongRunsTest() {
     }
@@ -50,18 +51,21 @@ public final class LongRunsTest {
         PlainDesk plain = new PlainDesk();
         int most = kind % 2 == 0 ? 60 : 500;
         int days = kind < 4 ? 3 : 60;
+        calls = 0;
         same(1, "digest()", desk::digest, plain::digest);
-        for (int call = 1; call < CALLS; call++) {
+        while (calls < CALLS) {
             if (below(3) == 0) {
                 ask(desk, plain);
-            } else {
+            } else if (calls < CALLS - 1) {
                 change(desk, plain, most, days);
+            } else {
+                same(30, "digest()", desk::digest, plain::digest);
             }
         }
-        same(30, "digest()", desk::digest, plain::digest);
     }
 
     private void same(int promise, String name, Due.Call one, Due.Call other) {
+        calls++;
         Object want;
         try {
             want = other.answer();
@@ -71,9 +75,10 @@ public final class LongRunsTest {
         due.is(promise, name, one, want);
     }
 
+    /** A call that may change something, and one that tells whether it did so rightly. */
     private void change(PactClocks desk, PlainDesk plain, int most, int passed) {
-        int party = some(0, Math.max(0, desk.parties() - 1));
-        int duty = some(0, Math.max(0, desk.duties() - 1));
+        int party = some(0, Math.max(0, plain.parties() - 1));
+        int duty = some(0, Math.max(0, plain.duties() - 1));
         switch (below(14)) {
             case 0 -> {
                 int purse = some(0, most);
@@ -104,20 +109,20 @@ public final class LongRunsTest {
     }
 
     private void add(PactClocks desk, PlainDesk plain, int debtor) {
-        int creditor = some(0, Math.max(0, desk.parties() - 1));
+        int creditor = some(0, Math.max(0, plain.parties() - 1));
         int amount = below(2) == 0 ? some(1, 12) : some(1, 50);
         int days = some(1, 30);
         int cure = below(4) == 0 ? 0 : some(0, 10);
         int penalty = some(0, 20);
-        int after = below(2) == 0 ? -1 : some(-1, Math.max(0, desk.duties() - 1));
+        int after = below(2) == 0 ? -1 : some(-1, Math.max(0, plain.duties() - 1));
         same(3, "addDuty", () -> desk.addDuty(debtor, creditor, amount, days, cure, penalty, after),
                 () -> plain.addDuty(debtor, creditor, amount, days, cure, penalty, after));
     }
 
     private void ask(PactClocks desk, PlainDesk plain) {
-        int party = some(0, Math.max(0, desk.parties() - 1));
-        int duty = some(0, Math.max(0, desk.duties() - 1));
-        int other = some(0, Math.max(0, desk.parties() - 1));
+        int party = some(0, Math.max(0, plain.parties() - 1));
+        int duty = some(0, Math.max(0, plain.duties() - 1));
+        int other = some(0, Math.max(0, plain.parties() - 1));
         int days = some(1, 60);
         int state = some(0, 5);
         switch (below(22)) {
