@@ -173,6 +173,15 @@ public final class EdgeAnswersTest {
         edges.is("of one that begins then", desk.stoppedFor(1), 0);
         desk.pass(2);
         edges.is("as it goes on", desk.stoppedFor(2), 0);
+        PactClocks other = Desks.eachState();
+        other.release(0);
+        other.release(2);
+        edges.is("of one that was stopped as it was released", other.stoppedFor(0), 0);
+        edges.is("of one that was late, stopped and released", other.stoppedFor(2), 0);
+        other.pass(1);
+        edges.is("a day behind that", other.stoppedFor(0), 0);
+        desk.pass(9);
+        edges.is("of one that has failed since it stood still", desk.stoppedFor(2), 0);
     }
 
     private void hangingNone() {
